@@ -1,0 +1,47 @@
+/** Counts the calls of a test whose answer is not the one that is due, and prints them. */
+final class Check {
+  private int wrong = 0;
+  private int looked = 0;
+
+  void same(String call, long want, long got) {
+    same(call, Long.toString(want), Long.toString(got));
+  }
+
+  void same(String call, String want, String got) {
+    looked++;
+    if (!want.equals(got)) {
+      tell(call + " answered " + got + ", due is " + want);
+    }
+  }
+
+  void yes(String call, boolean got) {
+    same(call, 1, got ? 1 : 0);
+  }
+
+  void no(String call, boolean got) {
+    same(call, 0, got ? 1 : 0);
+  }
+
+  /** The very class is asked for: an ArrayIndexOutOfBoundsException is no answer of the document. */
+  void fails(String call, Class<? extends RuntimeException> want, Runnable action) {
+    String got = "nothing thrown";
+    try {
+      action.run();
+    } catch (RuntimeException e) {
+      got = e.getClass().getSimpleName();
+    }
+    same(call, want.getSimpleName(), got);
+  }
+
+  private void tell(String what) {
+    wrong++;
+    System.out.println(what);
+  }
+
+  void end() {
+    if (looked == 0) {
+      tell("nothing was looked at");
+    }
+    System.exit(wrong == 0 ? 0 : 1);
+  }
+}
