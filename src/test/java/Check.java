@@ -3,6 +3,14 @@ final class Check {
   private int wrong = 0;
   private int looked = 0;
 
+  static ThrowFlow withMethods(int count) {
+    ThrowFlow x = new ThrowFlow();
+    for (int m = 0; m < count; m++) {
+      x.method();
+    }
+    return x;
+  }
+
   void same(String call, long want, long got) {
     same(call, Long.toString(want), Long.toString(got));
   }

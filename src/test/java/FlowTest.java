@@ -24,14 +24,6 @@ public final class FlowTest {
     check.end();
   }
 
-  private static ThrowFlow withMethods(int count) {
-    ThrowFlow x = new ThrowFlow();
-    for (int m = 0; m < count; m++) {
-      x.method();
-    }
-    return x;
-  }
-
   private static void wayIs(String what, ThrowFlow x, int method, int kind, int... places) {
     check.same(what + ": way", places.length, x.way(method, kind));
     for (int k = 0; k < places.length; k++) {
@@ -44,7 +36,7 @@ public final class FlowTest {
   }
 
   private static void eachCodeRaises() {
-    ThrowFlow x = withMethods(2);
+    ThrowFlow x = Check.withMethods(2);
     for (int code = 0; code < 10; code++) {
       x.add(0, code, 0, 1);
     }
@@ -57,7 +49,7 @@ public final class FlowTest {
   }
 
   private static void unreachedInstructionsCount() {
-    ThrowFlow x = withMethods(1);
+    ThrowFlow x = Check.withMethods(1);
     x.add(0, 9, 0, 0);
     x.add(0, 7, 0, 0);
     x.add(0, 0, 1, 5);
@@ -67,7 +59,7 @@ public final class FlowTest {
   }
 
   private static void firstFittingHandlerCatches() {
-    ThrowFlow x = withMethods(1);
+    ThrowFlow x = Check.withMethods(1);
     x.add(0, 7, 1, 0);
     x.add(0, 7, 1, 0);
     x.add(0, 7, 1, 0);
@@ -86,7 +78,7 @@ public final class FlowTest {
   }
 
   private static void handlersOfParentsCatch() {
-    ThrowFlow x = withMethods(1);
+    ThrowFlow x = Check.withMethods(1);
     x.kind(1);
     x.kind(3);
     x.add(0, 7, 4, 0);
@@ -103,7 +95,7 @@ public final class FlowTest {
   }
 
   private static void againRaisesWhatItsHandlerCatches() {
-    ThrowFlow x = withMethods(1);
+    ThrowFlow x = Check.withMethods(1);
     x.add(0, 8, 0, 0);
     x.add(0, 7, 1, 0);
     x.add(0, 7, 2, 0);
@@ -121,7 +113,7 @@ public final class FlowTest {
   }
 
   private static void againOfItselfRaisesNothing() {
-    ThrowFlow x = withMethods(1);
+    ThrowFlow x = Check.withMethods(1);
     x.add(0, 8, 0, 0);
     x.add(0, 8, 1, 0);
     x.handler(0, 0, 1, 0, 0);
@@ -137,7 +129,7 @@ public final class FlowTest {
   }
 
   private static void callsPassOnWhatComesOut() {
-    ThrowFlow x = withMethods(3);
+    ThrowFlow x = Check.withMethods(3);
     x.add(0, 6, 0, 1);
     x.add(1, 6, 0, 2);
     x.add(2, 3, 0, 0);
@@ -156,7 +148,7 @@ public final class FlowTest {
   }
 
   private static void callsInACircle() {
-    ThrowFlow x = withMethods(3);
+    ThrowFlow x = Check.withMethods(3);
     x.add(0, 6, 0, 1);
     x.add(1, 6, 0, 2);
     x.add(2, 6, 0, 0);
@@ -176,7 +168,7 @@ public final class FlowTest {
   }
 
   private static void textChangesAreSeen() {
-    ThrowFlow x = withMethods(2);
+    ThrowFlow x = Check.withMethods(2);
     x.add(0, 6, 0, 1);
     check.same("at first", 4, x.out(0));
     x.add(1, 7, 1, 0);
@@ -195,7 +187,7 @@ public final class FlowTest {
   }
 
   private static void whatIsNotThere() {
-    ThrowFlow x = withMethods(2);
+    ThrowFlow x = Check.withMethods(2);
     x.add(0, 7, 0, 0);
     x.add(1, 7, 0, 0);
     x.handler(1, 0, 0, 0, 0);
@@ -220,7 +212,7 @@ public final class FlowTest {
   }
 
   private static void waysOfOne() {
-    ThrowFlow x = withMethods(2);
+    ThrowFlow x = Check.withMethods(2);
     x.add(0, 6, 0, 1);
     x.add(0, 3, 0, 0);
     x.add(0, 7, 2, 0);
@@ -234,7 +226,7 @@ public final class FlowTest {
   }
 
   private static void shortestWay() {
-    ThrowFlow x = withMethods(4);
+    ThrowFlow x = Check.withMethods(4);
     x.add(0, 6, 0, 1);
     x.add(0, 6, 0, 3);
     x.add(1, 6, 0, 2);
@@ -248,7 +240,7 @@ public final class FlowTest {
   }
 
   private static void lesserNumbersFirst() {
-    ThrowFlow x = withMethods(4);
+    ThrowFlow x = Check.withMethods(4);
     x.add(0, 6, 0, 3);
     x.add(0, 6, 0, 1);
     x.add(1, 7, 0, 0);
@@ -262,7 +254,7 @@ public final class FlowTest {
   }
 
   private static void wayThroughAgain() {
-    ThrowFlow x = withMethods(2);
+    ThrowFlow x = Check.withMethods(2);
     x.add(0, 6, 0, 1);
     x.add(0, 7, 0, 0);
     x.add(0, 8, 0, 0);
@@ -278,9 +270,9 @@ public final class FlowTest {
     wayIs("1 by both", x, 0, 1, 3, 2, 1);
   }
 
-  /** In each method three AGAINs in a row, the last of which comes out to the CALL of the next. */
+  /** In each method a CALL of the next one and four AGAINs in a row, the last of which comes out. */
   private static void longWay() {
-    ThrowFlow x = withMethods(8);
+    ThrowFlow x = Check.withMethods(8);
     int[] due = new int[8 * 5];
     for (int m = 0; m < 8; m++) {
       x.add(m, m < 7 ? 6 : 7, 0, m + 1);
@@ -299,7 +291,7 @@ public final class FlowTest {
   }
 
   private static void wayOfNothing() {
-    ThrowFlow x = withMethods(1);
+    ThrowFlow x = Check.withMethods(1);
     wayIs("no instructions", x, 0, 0);
     x.add(0, 7, 1, 0);
     wayIs("another class", x, 0, 0);

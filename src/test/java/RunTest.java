@@ -20,14 +20,6 @@ public final class RunTest {
     check.end();
   }
 
-  private static ThrowFlow withMethods(int count) {
-    ThrowFlow x = new ThrowFlow();
-    for (int m = 0; m < count; m++) {
-      x.method();
-    }
-    return x;
-  }
-
   private static void gives(String what, ThrowFlow x, int start, int value, int fuel) {
     check.same(what, value, x.run(0, start, 3000));
     tells(what, x, fuel, ThrowFlow.NONE);
@@ -55,7 +47,7 @@ public final class RunTest {
   private static void registersAtFirst() {
     int[] due = {-9, 0, 0, 0};
     for (int r = 0; r < 4; r++) {
-      ThrowFlow x = withMethods(1);
+      ThrowFlow x = Check.withMethods(1);
       x.add(0, 9, r, 0);
       gives("register " + r, x, -9, due[r], 1);
       x.change(0, 0, 0, r, 5);
@@ -67,7 +59,7 @@ public final class RunTest {
   }
 
   private static int after(int code, int left, int right) {
-    ThrowFlow x = withMethods(1);
+    ThrowFlow x = Check.withMethods(1);
     x.add(0, 0, 3, right);
     x.add(0, code, 0, 3);
     return x.run(0, left, 2);
@@ -86,7 +78,7 @@ public final class RunTest {
     }
     check.same("towards 0", -2, after(3, -7, 3));
     check.same("wrapping", MIN, after(3, MIN, -1));
-    ThrowFlow x = withMethods(1);
+    ThrowFlow x = Check.withMethods(1);
     x.add(0, 1, 0, 0);
     gives("a register added to itself", x, 21, 42, 1);
     x.change(0, 0, 3, 0, 0);
@@ -95,7 +87,7 @@ public final class RunTest {
   }
 
   private static void jumps() {
-    ThrowFlow x = withMethods(1);
+    ThrowFlow x = Check.withMethods(1);
     x.add(0, 5, 0, 3);
     x.add(0, 0, 0, 10);
     x.add(0, 4, 4, 0);
@@ -111,7 +103,7 @@ public final class RunTest {
   }
 
   private static void endsGiveForNothing() {
-    ThrowFlow x = withMethods(3);
+    ThrowFlow x = Check.withMethods(3);
     gives("no instructions", x, 13, 13, 0);
     x.add(0, 6, 0, 1);
     gives("a method with no instructions", x, 13, 13, 1);
@@ -129,7 +121,7 @@ public final class RunTest {
   }
 
   private static void callsGive() {
-    ThrowFlow x = withMethods(2);
+    ThrowFlow x = Check.withMethods(2);
     x.add(0, 0, 1, 5);
     x.add(0, 0, 2, 6);
     x.add(0, 6, 1, 1);
@@ -147,7 +139,7 @@ public final class RunTest {
   }
 
   private static void twelveUnderWay() {
-    ThrowFlow x = withMethods(1);
+    ThrowFlow x = Check.withMethods(1);
     x.add(0, 5, 0, 4);
     x.add(0, 0, 1, 1);
     x.add(0, 2, 0, 1);
@@ -163,7 +155,7 @@ public final class RunTest {
   }
 
   private static void handlersAreGoneTo() {
-    ThrowFlow x = withMethods(2);
+    ThrowFlow x = Check.withMethods(2);
     x.kind(1);
     x.add(0, 0, 1, 8);
     x.add(0, 6, 0, 1);
@@ -187,7 +179,7 @@ public final class RunTest {
   }
 
   private static void againThrows() {
-    ThrowFlow x = withMethods(1);
+    ThrowFlow x = Check.withMethods(1);
     x.kind(1);
     x.add(0, 8, 0, 0);
     x.add(0, 5, 0, 3);
@@ -209,7 +201,7 @@ public final class RunTest {
   }
 
   private static void lastOfTwo() {
-    ThrowFlow x = withMethods(1);
+    ThrowFlow x = Check.withMethods(1);
     x.add(0, 7, 1, 0);
     x.add(0, 5, 1, 4);
     x.add(0, 8, 0, 0);
@@ -221,7 +213,7 @@ public final class RunTest {
     lets("each handler has its own", x, 0, 1, 5);
     x.change(0, 2, 8, 1, 0);
     lets("each handler has its own", x, 0, 2, 5);
-    ThrowFlow y = withMethods(1);
+    ThrowFlow y = Check.withMethods(1);
     y.add(0, 7, 1, 0);
     y.add(0, 5, 1, 3);
     y.add(0, 8, 0, 0);
@@ -229,7 +221,7 @@ public final class RunTest {
     y.add(0, 7, 2, 0);
     y.handler(0, 0, 0, 0, 1);
     lets("what is not caught ends it", y, 0, 2, 4);
-    ThrowFlow z = withMethods(1);
+    ThrowFlow z = Check.withMethods(1);
     z.add(0, 7, 1, 0);
     z.add(0, 5, 1, 3);
     z.add(0, 8, 0, 0);
@@ -249,7 +241,7 @@ public final class RunTest {
 
   /** A handler that catches 1 and then 2 throws 2 again. */
   private static void caughtAnew() {
-    ThrowFlow x = withMethods(1);
+    ThrowFlow x = Check.withMethods(1);
     x.add(0, 7, 1, 0);
     x.add(0, 7, 2, 0);
     x.add(0, 5, 1, 4);
@@ -262,7 +254,7 @@ public final class RunTest {
 
   /** What an outer call of the same method caught is not what an inner or a later one caught. */
   private static void againIsOfThisCall() {
-    ThrowFlow x = withMethods(2);
+    ThrowFlow x = Check.withMethods(2);
     x.add(0, 6, 0, 1);
     x.add(0, 0, 0, 0);
     x.add(0, 6, 0, 1);
@@ -273,7 +265,7 @@ public final class RunTest {
     x.add(1, 0, 0, 4);
     x.handler(1, 1, 1, 1, 2);
     gives("a later call", x, 1, 4, 9);
-    ThrowFlow y = withMethods(1);
+    ThrowFlow y = Check.withMethods(1);
     y.add(0, 5, 0, 4);
     y.add(0, 7, 1, 0);
     y.add(0, 0, 0, 0);
@@ -285,7 +277,7 @@ public final class RunTest {
   }
 
   private static void fuelEnds() {
-    ThrowFlow x = withMethods(1);
+    ThrowFlow x = Check.withMethods(1);
     x.add(0, 4, 0, 0);
     for (int fuel : new int[] {0, 1, 2, 2999, 3000}) {
       check.fails("a circle", IllegalStateException.class, () -> x.run(0, 0, fuel));
@@ -296,7 +288,7 @@ public final class RunTest {
     x.handler(0, 0, 0, 0, 0);
     check.fails("a circle by a handler", IllegalStateException.class, () -> x.run(0, 0, 3000));
     tells("a circle by a handler", x, 3000, ThrowFlow.NONE);
-    ThrowFlow y = withMethods(2);
+    ThrowFlow y = Check.withMethods(2);
     y.add(0, 6, 0, 1);
     y.add(0, 4, 0, 0);
     y.add(1, 6, 0, 7);
@@ -305,7 +297,7 @@ public final class RunTest {
   }
 
   private static void refusedRunsTellNothing() {
-    ThrowFlow x = withMethods(1);
+    ThrowFlow x = Check.withMethods(1);
     x.add(0, 0, 1, 1);
     x.add(0, 7, 2, 0);
     check.fails("run", UnsupportedOperationException.class, () -> x.run(0, 0, 9));
@@ -321,7 +313,7 @@ public final class RunTest {
   }
 
   private static void refuses() {
-    ThrowFlow x = withMethods(1);
+    ThrowFlow x = Check.withMethods(1);
     for (int m : new int[] {-1, 1, 7, 8, MAX, MIN}) {
       check.fails("method " + m, IndexOutOfBoundsException.class, () -> x.run(m, 0, 10));
       check.fails("method " + m + ", wrong fuel", IndexOutOfBoundsException.class, () -> x.run(m, 0, -1));

@@ -17,12 +17,6 @@ public final class TextTest {
     check.end();
   }
 
-  private static ThrowFlow withMethod() {
-    ThrowFlow x = new ThrowFlow();
-    x.method();
-    return x;
-  }
-
   private static void methodCounts() {
     ThrowFlow x = new ThrowFlow();
     for (int number = 0; number < 8; number++) {
@@ -39,7 +33,7 @@ public final class TextTest {
   }
 
   private static void addAnswersNumbers() {
-    ThrowFlow x = withMethod();
+    ThrowFlow x = Check.withMethods(1);
     x.method();
     for (int number = 0; number < 24; number++) {
       check.same("add", number, x.add(0, number % 10, 1, 2));
@@ -84,7 +78,7 @@ public final class TextTest {
 
   private static void putBoth(int code, int a, int b, boolean allowed) {
     String call = code + ", " + a + ", " + b;
-    ThrowFlow x = withMethod();
+    ThrowFlow x = Check.withMethods(1);
     if (allowed) {
       check.same("add " + call, 0, x.add(0, code, a, b));
       check.same("change " + call, code, x.change(0, 0, code, a, b));
@@ -97,7 +91,7 @@ public final class TextTest {
   }
 
   private static void addTakesWhatIsNotThere() {
-    ThrowFlow x = withMethod();
+    ThrowFlow x = Check.withMethods(1);
     check.same("a CALL of a method not made", 0, x.add(0, 6, 0, 7));
     check.same("an AGAIN of a handler not there", 1, x.add(0, 8, 3, 0));
     check.same("it gives 0", 0, x.run(0, 5, 10));
@@ -116,7 +110,7 @@ public final class TextTest {
   }
 
   private static void handlerAnswersNumbers() {
-    ThrowFlow x = withMethod();
+    ThrowFlow x = Check.withMethods(1);
     x.method();
     for (int number = 0; number < 4; number++) {
       check.same("handler", number, x.handler(0, 0, 23, 0, 23));
@@ -130,7 +124,7 @@ public final class TextTest {
   }
 
   private static void handlerRefuses() {
-    ThrowFlow x = withMethod();
+    ThrowFlow x = Check.withMethods(1);
     int[][] wrong = {
       {-1, 0, 0, 0}, {0, -1, 0, 0}, {24, 24, 0, 0}, {0, 24, 0, 0}, {5, 4, 0, 0}, {23, 0, 0, 0},
       {0, 0, -1, 0}, {0, 0, 3, 0}, {0, 0, 10, 0}, {0, 0, 0, -1}, {0, 0, 0, 24},
@@ -147,7 +141,7 @@ public final class TextTest {
   }
 
   private static void changeAnswersTheCode() {
-    ThrowFlow x = withMethod();
+    ThrowFlow x = Check.withMethods(1);
     for (int code = 0; code < 10; code++) {
       x.add(0, code, 1, 1);
     }
@@ -161,7 +155,7 @@ public final class TextTest {
   }
 
   private static void changeRefuses() {
-    ThrowFlow x = withMethod();
+    ThrowFlow x = Check.withMethods(1);
     x.method();
     x.add(0, 0, 0, 0);
     x.add(1, 0, 0, 0);
@@ -176,7 +170,7 @@ public final class TextTest {
   }
 
   private static void refusedCallsChangeNothing() {
-    ThrowFlow x = withMethod();
+    ThrowFlow x = Check.withMethods(1);
     x.add(0, 7, 2, 0);
     x.handler(0, 0, 0, 2, 1);
     check.same("out(0)", 0, x.out(0));
