@@ -24,6 +24,7 @@ public final class ModelTest {
   private final int row;
   private long state;
   private final int methodsWanted;
+  private int calls = 0;
 
   private ModelTest(int row) {
     this.row = row;
@@ -57,7 +58,7 @@ public final class ModelTest {
     for (int m = 0; m < methodsWanted; m++) {
       same("method");
     }
-    for (int call = methodsWanted; call < CALLS; call++) {
+    while (calls < CALLS) {
       int roll = next(100);
       if (roll < 3) {
         same("kind", near(model.parents.size()));
@@ -138,7 +139,12 @@ public final class ModelTest {
     }
   }
 
+  /** Behind the 512th call of an object any answer is right, so none is asked for. */
   private void same(String call, int... p) {
+    if (calls >= CALLS) {
+      return;
+    }
+    calls++;
     String want = answer(() -> model.call(call, p));
     String got = answer(() -> callReal(call, p));
     check.same("row " + row + ": " + call + Arrays.toString(p), want, got);
