@@ -105,23 +105,28 @@ public final class ThrowFlow {
   }
 
   public int out(int method) {
+    flow.refresh();
     return text.hasMethod(method) ? flow.through(Flow.doorOut(method)) : 0;
   }
 
   public int raises(int method, int i) {
+    flow.refresh();
     return text.hasInstruction(method, i) ? flow.raisedAt(method, i) : 0;
   }
 
   public int catches(int method, int h) {
+    flow.refresh();
     return text.hasHandler(method, h) ? flow.through(Flow.doorOf(method, h)) : 0;
   }
 
   public int way(int method, int kind) {
-    return text.hasMethod(method) && text.kinds.has(kind) ? flow.wayLength(method, kind) : 0;
+    flow.refresh();
+    return flow.wayLength(method, kind);
   }
 
   public int step(int method, int kind, int k) {
-    boolean isThere = k >= 0 && k < way(method, kind);
+    flow.refresh();
+    boolean isThere = k >= 0 && k < flow.wayLength(method, kind);
     return isThere ? flow.wayPlace(method, kind, k) : NONE;
   }
 
@@ -360,24 +365,24 @@ public final class ThrowFlow {
     }
 
     int through(int door) {
-      refresh();
       return passed[door];
     }
 
     int raisedAt(int method, int i) {
-      refresh();
       return raised[placeOf(method, i)];
     }
 
+    /** How long the way of a class out of a method is; 0 if there is no such method, class or way. */
     int wayLength(int method, int kind) {
-      refresh();
+      if (!text.hasMethod(method) || !text.kinds.has(kind)) {
+        return 0;
+      }
       int i = nearest(doorOut(method), kind);
       return i == NONE ? 0 : lengthAt(method, i, kind);
     }
 
     /** The k-th place of a way that is known to be longer than k. */
     int wayPlace(int method, int kind, int k) {
-      refresh();
       int door = doorOut(method);
       for (int passedBy = 0; passedBy < k && door != NONE; passedBy++) {
         int i = nearest(door, kind);
@@ -443,7 +448,8 @@ public final class ThrowFlow {
       }
     }
 
-    private void refresh() {
+    /** What the text says now; to be called before anything else is asked. */
+    void refresh() {
       if (!stale) {
         return;
       }

@@ -1,7 +1,10 @@
+import java.util.function.IntSupplier;
+
 /** Counts the calls of a test whose answer is not the one that is due, and prints them. */
 final class Check {
   private int wrong = 0;
   private int looked = 0;
+  private String words = "";
 
   static ThrowFlow withMethods(int count) {
     ThrowFlow x = new ThrowFlow();
@@ -9,6 +12,11 @@ final class Check {
       x.method();
     }
     return x;
+  }
+
+  /** The words of the document that break if one of the looks which follow goes wrong. */
+  void says(String words) {
+    this.words = words;
   }
 
   void same(String call, long want, long got) {
@@ -41,9 +49,20 @@ final class Check {
     same(call, want.getSimpleName(), got);
   }
 
+  /** For a call that a wrong program could refuse: the test goes on then, too. */
+  void gives(String call, int want, IntSupplier asked) {
+    String got;
+    try {
+      got = Integer.toString(asked.getAsInt());
+    } catch (RuntimeException e) {
+      got = e.getClass().getSimpleName();
+    }
+    same(call, Integer.toString(want), got);
+  }
+
   private void tell(String what) {
     wrong++;
-    System.out.println(what);
+    System.out.println(words.isEmpty() ? what : "'" + words + "': " + what);
   }
 
   void end() {
