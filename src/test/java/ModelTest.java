@@ -58,6 +58,9 @@ public final class ModelTest {
     for (int m = 0; m < methodsWanted; m++) {
       same("method");
     }
+    if (row % 4 == 0) {
+      fill();
+    }
     while (calls < CALLS) {
       int roll = next(100);
       if (roll < 3) {
@@ -65,13 +68,29 @@ public final class ModelTest {
       } else if (roll < 5) {
         same("is", near(model.parents.size()), near(model.parents.size()));
       } else if (roll < 30) {
-        instruction("add");
+        instruction("add", method());
       } else if (roll < 37) {
         handlerOrMethod();
       } else if (roll < 50) {
-        instruction("change");
+        instruction("change", method());
       } else {
         ask(roll);
+      }
+    }
+  }
+
+  /** In some rows the text has nearly all that it can have, so that its limits are come to. */
+  private void fill() {
+    for (int c = 0; c < 8; c++) {
+      same("kind", next(model.parents.size()));
+    }
+    for (int m = 0; m < model.methods.size(); m++) {
+      for (int i = 0; i < 24; i++) {
+        instruction("add", m);
+      }
+      for (int h = 0; h < 4; h++) {
+        int first = next(24);
+        same("handler", m, first, first + next(24 - first), next(model.parents.size()), next(24));
       }
     }
   }
@@ -86,7 +105,7 @@ public final class ModelTest {
     same("handler", method(), first, last, near(model.parents.size()), next(3) == 0 ? near(24) : next(8));
   }
 
-  private void instruction(String call) {
+  private void instruction(String call, int m) {
     int[] codes = {0, 1, 2, 3, 4, 5, 6, 6, 6, 6, 7, 7, 8, 8, 8, 9};
     int code = next(40) == 0 ? near(10) : codes[next(codes.length)];
     int a = switch (code) {
@@ -100,7 +119,6 @@ public final class ModelTest {
       case 6 -> near(Math.min(8, model.methods.size() + 1));
       default -> near(4);
     };
-    int m = method();
     if (call.equals("add")) {
       same("add", m, code, a, b);
     } else {

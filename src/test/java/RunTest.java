@@ -14,8 +14,10 @@ public final class RunTest implements Codes {
     callGivesFor();
     throwThrows();
     againThrowsWhatWasCaughtLast();
+    againStaysCaught();
     againIsOfItsOwnHandler();
     againIsSinceTheMethodWasCalled();
+    againIsOfItsOwnCall();
     againOfNothing();
     giveGives();
     endGivesRegister0();
@@ -273,6 +275,21 @@ public final class RunTest implements Codes {
     lets("its very class, not the handler's", x, 0, 3, 7);
   }
 
+  private static void againStaysCaught() {
+    check.says("AGAIN: the exception that handler a of this method caught last (also a second time)");
+    ThrowFlow x = one();
+    x.add(0, THROW, 1, 0);
+    x.add(0, AGAIN, 0, 0);
+    x.add(0, AGAIN, 0, 0);
+    x.add(0, AGAIN, 0, 0);
+    x.handler(0, 0, 0, 0, 1);
+    x.handler(0, 1, 1, 0, 2);
+    x.handler(0, 2, 2, 0, 3);
+    lets("three times", x, 0, 1, 4);
+    x.change(0, 3, SET, 0, 7);
+    gives("twice", x, 0, 7, 4);
+  }
+
   private static void againIsOfItsOwnHandler() {
     check.says("AGAIN: the exception that handler a of this method caught (and no other handler)");
     ThrowFlow x = one();
@@ -292,20 +309,29 @@ public final class RunTest implements Codes {
     gives("a fourth one caught nothing", x, 6, 6, 4);
   }
 
+  /** Throws these classes one after another, each at its own instruction and to its own handler. */
+  private static void catchFour(ThrowFlow x, int method, int first, int... kinds) {
+    for (int h = 0; h < 4; h++) {
+      x.add(method, THROW, kinds[h], 0);
+      x.handler(method, first + h, first + h, 0, first + h + 1);
+    }
+  }
+
   private static void againIsSinceTheMethodWasCalled() {
     check.says("since the method was called");
     ThrowFlow x = Check.withMethods(2);
     x.add(0, CALL, 0, 1);
     x.add(0, SET, 0, 0);
     x.add(0, CALL, 0, 1);
-    x.add(1, ZERO, 0, 2);
-    x.add(1, THROW, 1, 0);
-    x.add(1, ZERO, 0, 4);
+    x.add(1, ZERO, 0, 6);
+    catchFour(x, 1, 1, 1, 1, 2, 2);
     x.add(1, GIVE, 2, 0);
-    x.add(1, AGAIN, 0, 0);
+    for (int h = 0; h < 4; h++) {
+      x.add(1, AGAIN, h, 0);
+    }
     x.add(1, SET, 0, 4);
-    x.handler(1, 1, 1, 1, 2);
-    gives("a later call of the method", x, 1, 4, 11);
+    gives("no call of the method has any", x, 0, 4, 15);
+    gives("a later call of the method has none", x, 1, 4, 15);
     ThrowFlow y = one();
     y.add(0, ZERO, 0, 4);
     y.add(0, THROW, 1, 0);
@@ -315,6 +341,32 @@ public final class RunTest implements Codes {
     y.handler(0, 1, 1, 1, 2);
     lets("an inner call has none, the outer one has it still", y, 1, 1, 7);
     gives("a later run", y, 0, 0, 2);
+  }
+
+  private static void againIsOfItsOwnCall() {
+    check.says("AGAIN: the exception that handler a of this method caught (and no other method's)");
+    for (int h = 0; h < 4; h++) {
+      ThrowFlow x = Check.withMethods(2);
+      x.kind(0);
+      catchFour(x, 0, 0, 0, 1, 2, 3);
+      catchFour(x, 1, 0, 3, 2, 1, 0);
+      x.add(0, CALL, 0, 1);
+      x.add(0, AGAIN, h, 0);
+      lets("the outer one's, behind an inner one", x, 9, h, 10);
+    }
+    for (int depth = 0; depth < 12; depth++) {
+      for (int h = 0; h < 4; h++) {
+        ThrowFlow x = one();
+        x.kind(0);
+        catchFour(x, 0, 0, 0, 1, 2, 3);
+        x.add(0, ZERO, 0, 8);
+        x.add(0, SET, 1, 1);
+        x.add(0, SUB, 0, 1);
+        x.add(0, CALL, 0, 0);
+        x.add(0, AGAIN, h, 0);
+        lets("the innermost one's", x, depth, h, 8 * depth + 6);
+      }
+    }
   }
 
   private static void againOfNothing() {
