@@ -1,4 +1,5 @@
 import java.util.function.IntSupplier;
+import java.util.function.Supplier;
 
 /** Counts the calls of a test whose answer is not the one that is due, and prints them. */
 final class Check {
@@ -58,6 +59,17 @@ final class Check {
       got = e.getClass().getSimpleName();
     }
     same(call, Integer.toString(want), got);
+  }
+
+  /** For a call with its answer as README.md shows it: a number, true or false, or what it throws. */
+  void answers(String call, String want, Supplier<Object> asked) {
+    String got;
+    try {
+      got = asked.get().toString();
+    } catch (RuntimeException e) {
+      got = "throws " + e.getClass().getSimpleName();
+    }
+    same(call, want, got);
   }
 
   private void tell(String what) {

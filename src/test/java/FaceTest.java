@@ -1,8 +1,11 @@
+import java.io.IOException;
 import java.lang.reflect.Constructor;
 import java.lang.reflect.Field;
 import java.lang.reflect.Member;
 import java.lang.reflect.Method;
 import java.lang.reflect.Modifier;
+import java.nio.file.Files;
+import java.nio.file.Path;
 import java.util.ArrayList;
 import java.util.Arrays;
 import java.util.List;
@@ -32,10 +35,11 @@ public final class FaceTest {
     "int way(int, int)",
   };
 
-  public static void main(String[] args) {
+  public static void main(String[] args) throws IOException {
     methodsAreTheFace();
     nothingElseIsSeen();
     innerClassesKeepToTheRules();
+    readmeShowsEachCall();
     check.end();
   }
 
@@ -96,6 +100,15 @@ public final class FaceTest {
       for (Method m : c.getDeclaredMethods()) {
         check.no(m + " bears a public name", names.contains(m.getName()));
         check.yes(m + " takes at most seven", m.getParameterCount() <= 7);
+      }
+    }
+  }
+
+  private static void readmeShowsEachCall() throws IOException {
+    String readme = Files.readString(Path.of("README.md"));
+    for (Method m : ThrowFlow.class.getMethods()) {
+      if (m.getDeclaringClass() == ThrowFlow.class) {
+        check.yes("README.md shows " + m.getName(), readme.contains("flow." + m.getName() + "("));
       }
     }
   }
