@@ -556,6 +556,9 @@ public final class FlowTest implements Codes {
     check.same("way of 2", 5, x.way(0, 2));
     check.same("way out of 3", 25, x.way(3, 0));
     check.same("way out of 7", 5, x.way(7, 0));
+    x.add(7, CALL, 0, 0);
+    check.same("a CALL before all of it raises it too", 5, x.raises(7, 5));
+    check.same("out of 7 it comes as before", 5, x.way(7, 0));
   }
 
   private static void wayOfWhatCannotComeOut() {

@@ -31,6 +31,7 @@ public final class RunTest implements Codes {
     eachInstructionCosts1();
     throwingCosts1();
     endCostsNothing();
+    endIsBeforeTheFuelEnds();
     elevenUnderWayCall();
     twelveUnderWayThrow();
     twelveThrowForMethodsNotThere();
@@ -564,6 +565,25 @@ public final class RunTest implements Codes {
     x.handler(0, 0, 0, 0, 1);
     check.same("a target behind the last", 31, x.run(0, 31, 1));
     tells("a target behind the last", x, 1, NONE);
+    check.same("no instruction, no fuel, behind another run", 32, x.run(1, 32, 0));
+    tells("no instruction, no fuel, behind another run", x, 0, NONE);
+  }
+
+  private static void endIsBeforeTheFuelEnds() {
+    check.says("the fuel is at its end before it gives (where an instruction is left, in a caller too)");
+    ThrowFlow x = Check.withMethods(3);
+    x.add(0, CALL, 0, 1);
+    x.add(1, CALL, 0, 2);
+    x.add(2, SET, 0, 6);
+    gives("no caller has one left", x, 5, 6, 3);
+    x.add(0, GIVE, 0, 0);
+    gives("the outermost has one left", x, 5, 6, 4);
+    x.add(1, GIVE, 3, 0);
+    gives("both have one left", x, 5, 0, 5);
+    x.change(0, 1, JUMP, 1, 0);
+    for (int fuel = 0; fuel < 10; fuel++) {
+      ends("the outermost never comes to its end", x, 5, fuel);
+    }
   }
 
   /** Calls itself x times, one after another from the inside out; instruction 4 is the innermost's. */
